@@ -301,6 +301,17 @@ public final class TinyC {
             kind = STOPPED;
         }
 
+        private void need(int due) {
+            if (kind != due) {
+                failHere(CANNOT_STAND);
+            }
+        }
+
+        private void pass(int due) {
+            need(due);
+            come();
+        }
+
         private void come() {
             if (wrong != 0) {
                 return;
@@ -747,24 +758,6 @@ public final class TinyC {
             open--;
         }
 
-        /** The token must be a bracket that opens; it stays. */
-        private void enterBracket() {
-            if (scan.kind == OPEN) {
-                enter();
-            } else {
-                scan.failHere(CANNOT_STAND);
-            }
-        }
-
-        /** The token must be of this kind; then the next one is come to. */
-        private void pass(int kind) {
-            if (scan.kind == kind) {
-                scan.come();
-            } else {
-                scan.failHere(CANNOT_STAND);
-            }
-        }
-
         /** A FRAME has the parameters first, then the LOCALS. */
         private int inFrame(int place) {
             return place < 0 ? place + 2 + parameters : place + parameters;
@@ -950,18 +943,19 @@ public final class TinyC {
         private int reading() {
             desk.takeCells(scan.place);
             scan.come();
-            desk.enterBracket();
+            scan.need(OPEN);
+            desk.enter();
             scan.come();
-            if (scan.kind != SHUT) {
-                scan.failHere(CANNOT_STAND);
-            }
+            scan.need(SHUT);
             desk.leave();
             scan.come();
             code.add(TAKE_INPUT);
             return tree.add(Tree.READING, 0, -1, -1);
         }
 
+        /** Reads ( E ). */
         private int bracketed() {
+            scan.need(OPEN);
             desk.enter();
             scan.come();
             int node = expression(SHUT);
@@ -1024,15 +1018,17 @@ public final class TinyC {
             scan.come();
             int count = 0;
             int last = -1;
-            for (int i = 0; i <= scan.size && scan.kind != SHUT && scan.kind != STOPPED; i++) {
-                int part = expression(COMMA);
-                tree.setNext(part, last);
-                last = part;
-                count++;
-                if (scan.kind != COMMA) {
-                    break;
+            if (scan.kind != SHUT) {
+                for (int i = 0; i <= scan.size; i++) {
+                    int part = expression(COMMA);
+                    tree.setNext(part, last);
+                    last = part;
+                    count++;
+                    if (scan.kind != COMMA) {
+                        break;
+                    }
+                    scan.come();
                 }
-                comeToPart();
             }
             if (count != names.countOf(name)) {
                 scan.fail(PARTS, at);
@@ -1041,14 +1037,6 @@ public final class TinyC {
             scan.come();
             code.addWithTwo(CALL, names.placeOf(name), count);
             return tree.add(Tree.CALLING, names.nodeOf(name), last, -1);
-        }
-
-        /** Behind a comma there must be another part. */
-        private void comeToPart() {
-            scan.come();
-            if (scan.kind == SHUT) {
-                scan.failHere(CANNOT_STAND);
-            }
         }
     }
 
@@ -1096,9 +1084,7 @@ public final class TinyC {
                     global(word);
                 }
             }
-            if (scan.kind != TEXT_END) {
-                scan.failHere(CANNOT_STAND);
-            }
+            scan.need(TEXT_END);
             finish();
             return scan.wrong;
         }
@@ -1130,10 +1116,10 @@ public final class TinyC {
                 sort = Names.ARRAY;
                 scan.come();
                 count = arraySize();
-                desk.pass(NUMBER);
-                desk.pass(SHUT_INDEX);
+                scan.pass(NUMBER);
+                scan.pass(SHUT_INDEX);
             }
-            desk.pass(SEMICOLON);
+            scan.pass(SEMICOLON);
             names.add(word, sort, program.globals, count);
             program.globals += count;
         }
@@ -1167,9 +1153,8 @@ public final class TinyC {
             locals = 0;
             mostLocals = 0;
             code.addWith(CLEAR, 0);
-            if (scan.kind == OPEN_BRACE) {
-                desk.enter();
-            }
+            scan.need(OPEN_BRACE);
+            desk.enter();
         }
 
         private void closeFunction(int first) {
@@ -1183,11 +1168,11 @@ public final class TinyC {
         /** Reads a FUNCTION's brackets: how many parameters there are. */
         private int parameters(int from) {
             desk.enter();
-            desk.pass(OPEN);
+            scan.come();
             int count = 0;
             if (scan.kind != SHUT) {
                 for (int i = 0; i <= scan.size; i++) {
-                    desk.pass(INT);
+                    scan.pass(INT);
                     parameter(from, count);
                     count++;
                     if (scan.kind != COMMA) {
@@ -1196,7 +1181,7 @@ public final class TinyC {
                     scan.come();
                 }
             }
-            desk.pass(SHUT);
+            scan.pass(SHUT);
             desk.leave();
             desk.parameters = count;
             for (int j = 0; j < count; j++) {
@@ -1225,7 +1210,7 @@ public final class TinyC {
             int first = -1;
             int last = -1;
             boolean declares = true;
-            desk.pass(OPEN_BRACE);
+            scan.come();
             for (int i = 0; i <= scan.size && scan.kind != SHUT_BRACE && scan.kind != STOPPED; i++) {
                 declares = declares && scan.kind == INT;
                 int node = declares ? local(mark) : statement();
@@ -1236,7 +1221,7 @@ public final class TinyC {
             names.cutTo(mark);
             locals = before;
             desk.leave();
-            desk.pass(SHUT_BRACE);
+            scan.come();
             return first;
         }
 
@@ -1256,7 +1241,7 @@ public final class TinyC {
             names.add(word, Names.LOCAL, place, 0);
             locals++;
             mostLocals = Math.max(mostLocals, locals);
-            desk.pass(SEMICOLON);
+            scan.pass(SEMICOLON);
             return tree.add(Tree.SET_LOCAL, desk.inFrame(place), value, -1);
         }
 
@@ -1295,21 +1280,11 @@ public final class TinyC {
             return -1;
         }
 
-        /** Reads ( E ). */
-        private int condition() {
-            desk.enterBracket();
-            scan.come();
-            int node = expressions.expression(SHUT);
-            desk.leave();
-            scan.come();
-            return node;
-        }
-
         private int choice() {
             desk.enter();
             desk.takeCells(scan.place);
             scan.come();
-            int condition = condition();
+            int condition = expressions.bracketed();
             code.addWith(JUMP_IF_ZERO, 0);
             int hole = code.size - 1;
             int then = statement();
@@ -1336,7 +1311,7 @@ public final class TinyC {
             desk.takeCells(scan.place);
             scan.come();
             int again = code.size;
-            int condition = condition();
+            int condition = expressions.bracketed();
             code.addWith(JUMP_IF_ZERO, 0);
             int hole = code.size - 1;
             int body = statement();
@@ -1358,8 +1333,8 @@ public final class TinyC {
         private int printing() {
             desk.takeCells(scan.place);
             scan.come();
-            int value = condition();
-            desk.pass(SEMICOLON);
+            int value = expressions.bracketed();
+            scan.pass(SEMICOLON);
             code.add(WRITE);
             return tree.add(Tree.PRINTING, 0, value, -1);
         }
@@ -1377,7 +1352,7 @@ public final class TinyC {
 
         private int callAlone(int name, int at) {
             int call = expressions.call(name, at);
-            desk.pass(SEMICOLON);
+            scan.pass(SEMICOLON);
             code.add(DROP);
             return tree.add(Tree.CALL_ALONE, 0, call, -1);
         }
@@ -1400,7 +1375,7 @@ public final class TinyC {
 
         private int itemAssignment(int name, int at) {
             int index = expressions.index(name, at);
-            desk.pass(ASSIGN);
+            scan.pass(ASSIGN);
             int value = expressions.expression(SEMICOLON);
             scan.come();
             int address = names.placeOf(name);
