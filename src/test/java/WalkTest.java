@@ -9,6 +9,8 @@ final class WalkTest {
         fuel();
         trapsAtWhatIsDone();
         room();
+        resetInTheMidst();
+        parametersAndLocals();
         output();
         check.end();
     }
@@ -173,6 +175,33 @@ final class WalkTest {
         // FRAMES are gone behind their calls
         check.due("many calls", check.madeWith(12, 9,
             "int f(int x){int y=x;return y;}int main(){int i=50;while(i)i=f(i)-1;}").interpret(99999), 1);
+    }
+
+    /** Values, ITEMS and FRAMES of what was left in the midst must be gone behind reset(). */
+    private static void resetInTheMidst() {
+        String text = "int f(int x){int y=x+1;return x*10+y+(0+1);}int main(){int z=7;return 1+f(4)+z;}";
+        int cells = 0;
+        while (check.madeWith(cells, 9, text).interpret(99) != 1) {
+            cells++;
+        }
+        TinyC x = check.madeWith(cells, 9, text);
+        for (int fuel = 1; fuel < 40; fuel++) {
+            x.interpret(fuel);
+            x.reset();
+            check.due("interpret behind " + fuel + " STEPS and reset()", x.interpret(99), 1);
+            check.outs("behind " + fuel + " STEPS and reset()", x, 54);
+            x.reset();
+            x.run(fuel);
+            x.reset();
+            check.due("interpret behind " + fuel + " steps and reset()", x.interpret(99), 1);
+            x.reset();
+        }
+    }
+
+    private static void parametersAndLocals() {
+        check.prints("int f(int x,int y){int z=x;int w=y;x=5;y=6;print(z);print(w);z=7;w=8;print(x);print(y);"
+            + "{int q=9;int x=q+z;print(x);}print(w);return x;}int main(){int z=50;print(f(1,2));print(z);}",
+            1, 2, 5, 6, 16, 8, 5, 50);
     }
 
     private static String manyLocals(int count) {

@@ -17,6 +17,8 @@ final class WrongTest {
         noCodeCells();
         tooGreatNumbers();
         theFirstAndTheLeast();
+        fullTexts();
+        againAndAgain();
         allElseStays();
         check.end();
     }
@@ -60,6 +62,7 @@ final class WrongTest {
         wrong(1, "int @ninechars;");
         wrong(1, "int @a12345678;");
         right("int eightchr;int _1234567;int ZzAa;int main(){}");
+        right("int A;int Z;int a;int z;int _;int A0;int Z9;int _0;int a0;int z9;int main(){A=Z;a=z;_=A0+Z9+_0+a0+z9;}");
         right("int\nmain\n(\n)\n{\n}\n");
         wrongS(1, "v=@12345678901;");
         wrongS(1, "v=@00000000000;");
@@ -335,6 +338,8 @@ final class WrongTest {
         rightS("v=" + times(39, "f(") + "1" + times(39, ")") + ";");
         wrongS(8, "v=" + times(39, "f(") + "f@(");
         rightS(times(100, "{}") + times(50, "if(1);else;") + times(50, "while(0);") + times(50, "v=(1);"));
+        rightS(times(50, "v=n()+read();n();f(1);a[0]=a[1];print(-1);"));
+        rightS("v=" + times(60, "n()+read()+f(1)+a[1]+-1+!(1)+") + "1;");
         // an if ends at its else: a chain of them goes one deeper each
         rightS(times(37, "if(0);else ") + "if(0);");
         rightS(times(38, "if(0);else ") + ";");
@@ -443,6 +448,37 @@ final class WrongTest {
         wrong(11, "int a[@9999999999]");
         wrong(1, "int a[@10000000000]");
         right("int a[1];int b[1000];int c[0000001000];int main(){}");
+    }
+
+    /** The text fills its cells, and ends within a token or behind one. */
+    private static void fullTexts() {
+        String[] texts = {"int", "i", "int v", "int v[2", "int v[", "int main(){return 1<", "int main(){return 1 ", "int main(){return v"};
+        for (String text : texts) {
+            TinyC x = Check.fed(new TinyC(text.length(), 99, 99, 9, 9), text);
+            int due = text.equals("i") ? 2 : text.endsWith("v") && text.length() > 9 ? 3 + 16 * 18 : 2 + 16 * text.length();
+            check.due("compile() of all of " + text, x.compile(), due);
+        }
+        String whole = "int v;int main(){}";
+        check.due("compile()", Check.fed(new TinyC(whole.length(), 99, 99, 9, 9), whole).compile(), 0);
+    }
+
+    /** What one compile() left behind is of no weight for the next. */
+    private static void againAndAgain() {
+        TinyC x = Check.fed(new TinyC(200, 40, 30, 99, 9), "int g;int a[3];int main(){g=((((-1+(");
+        for (int i = 0; i < 50; i++) {
+            check.due("compile() of what is not whole", x.compile(), 2 + 16 * 36);
+        }
+        Check.fed(x, "1)))));");
+        for (int i = 0; i < 50; i++) {
+            check.due("compile() of what is not whole", x.compile(), 2 + 16 * 43);
+        }
+        Check.fed(x, "a[1]=1;}");
+        for (int i = 0; i < 5; i++) {
+            check.due("compile() of what is whole", x.compile(), 0);
+            check.due("codeSize()", x.codeSize(), 25);
+            check.due("a's address", x.codeAt(19), 1);
+            check.due("run", x.run(99), 1);
+        }
     }
 
     private static void theFirstAndTheLeast() {
