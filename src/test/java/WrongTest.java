@@ -468,6 +468,10 @@ final class WrongTest {
         for (int i = 0; i < 50; i++) {
             check.due("compile() of what is not whole", x.compile(), 2 + 16 * 36);
         }
+        TinyC deep = Check.fed(Check.roomy(), "int main(){return " + times(50, "-") + times(50, "("));
+        for (int i = 0; i < 50; i++) {
+            check.due("compile() of what is too deep", deep.compile(), 8 + 16 * (18 + 39));
+        }
         Check.fed(x, "1)))));");
         for (int i = 0; i < 50; i++) {
             check.due("compile() of what is not whole", x.compile(), 2 + 16 * 43);
