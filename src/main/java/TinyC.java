@@ -1289,8 +1289,7 @@ public final class TinyC {
             int hole = code.size - 1;
             int then = statement();
             int otherwise = -1;
-            // what an if opens ends at its else, which opens a level of its own
-            desk.leave();
+            // the if is still open at its else, which is one level more within it
             if (scan.kind == ELSE) {
                 desk.enter();
                 scan.come();
@@ -1300,6 +1299,7 @@ public final class TinyC {
                 otherwise = statement();
                 desk.leave();
             }
+            desk.leave();
             code.set(hole, code.size);
             int node = tree.add(Tree.CHOICE, 0, -1, -1);
             tree.setParts(node, condition, then, otherwise);

@@ -463,13 +463,13 @@ final class Oracle {
             now++;
             Node s = new Node("if", inBrackets());
             s.parts.add(statement());
-            open--;
             if (is("else")) {
                 opens();
                 now++;
                 s.parts.add(statement());
                 open--;
             }
+            open--;
             return s;
         }
         if (is("while")) {

@@ -360,7 +360,10 @@ final class Writer {
                 case 2 -> {
                     s.append("if(1)");
                 }
-                case 3 -> s.append("if(0);else ");
+                case 3 -> {
+                    s.append("if(0);else ");
+                    open++;
+                }
                 case 4 -> {
                     s.append("if(1)");
                     shut.insert(0, "else ;");

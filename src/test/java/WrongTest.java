@@ -340,18 +340,41 @@ final class WrongTest {
         rightS(times(100, "{}") + times(50, "if(1);else;") + times(50, "while(0);") + times(50, "v=(1);"));
         rightS(times(50, "v=n()+read();n();f(1);a[0]=a[1];print(-1);"));
         rightS("v=" + times(60, "n()+read()+f(1)+a[1]+-1+!(1)+") + "1;");
-        // an if ends at its else: a chain of them goes one deeper each
-        rightS(times(37, "if(0);else ") + "if(0);");
-        rightS(times(38, "if(0);else ") + ";");
-        rightS(times(38, "if(0);else ") + "{}");
-        wrongS(8, times(38, "if(0);else ") + "{@{");
-        wrongS(8, times(38, "if(0);else ") + "if@(0);");
-        rightS(times(38, "if(0)") + ";" + times(38, "else;"));
+        elseTooDeep();
         // of one token the least: 5 ahead of 8, 8 ahead of 9
         wrongS(5, "v=" + times(39, "(") + "@v(");
         wrongS(5, "v=" + times(39, "(") + "@v[");
         int cells = 4 * (4 + 1 + 1);
         wrongWith(cells + 4 * 39, 4096, 8, KNOWN + "int main(){v=" + times(39, "-") + "@-1;}");
+    }
+
+    /** An if is open till the S of its else ends, and its else is one more within it. */
+    private static void elseTooDeep() {
+        rightS(times(37, "{") + "if(0);else;" + times(37, "}"));
+        wrongS(8, times(37, "{") + "if(0);else@{");
+        wrongS(8, times(37, "{") + "if(0);else @while(0);");
+        wrongS(8, times(37, "{") + "if(0);else @if(0);");
+        wrongS(8, times(37, "{") + "if(0);else print@(0);");
+        wrongS(8, times(37, "{") + "if(0);else v=@-1;");
+        rightS(times(37, "{") + "if(0);else v=1;" + times(37, "}"));
+        rightS(times(36, "{") + "if(0);else{}" + times(36, "}"));
+        // the S ahead of the else is not within it, nor is what is behind both
+        rightS(times(37, "{") + "if(0){}else;{{}}" + times(37, "}"));
+        wrongS(8, times(37, "{") + "if(0){@{");
+        wrongS(8, times(37, "{") + "if(0);else;{{@{");
+        // a chain goes two deeper each
+        rightS(times(19, "if(0);else ") + ";");
+        rightS(times(19, "if(0);else ") + "{}");
+        wrongS(8, times(19, "if(0);else ") + "{@{");
+        wrongS(8, times(19, "if(0);else ") + "if@(0);");
+        rightS(times(18, "if(0);else ") + "if(0){}else{}");
+        wrongS(8, times(18, "if(0);else ") + "if(0){}else{@{");
+        rightS(times(18, "if(0);else ") + "if(0){{}}else{}");
+        // elses behind ifs that are within one another: each if's own, outwards
+        rightS(times(38, "if(0)") + ";" + times(38, "else;"));
+        rightS(times(37, "if(0)") + ";" + "else{}" + times(36, "else{}"));
+        wrongS(8, times(38, "if(0)") + ";" + "else@{");
+        wrongS(8, times(38, "if(0)") + ";" + "else;else{@{");
     }
 
     private static void noTreeLeft() {
