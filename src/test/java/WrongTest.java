@@ -23,22 +23,16 @@ final class WrongTest {
         check.end();
     }
 
-    /** The place is that of the mark @, which is left out of the text. */
     private static void wrong(int kind, String marked) {
-        wrongWith(4096, 4096, kind, marked);
+        check.wrong(kind, marked);
     }
 
     private static void wrongWith(int astCells, int codeCells, int kind, String marked) {
-        int place = marked.indexOf('@');
-        String text = marked.replace("@", "");
-        TinyC x = Check.fed(new TinyC(4096, astCells, codeCells, 100, 9), text);
-        check.due("compile() of " + marked, x.compile(), kind + 16 * place);
-        check.due("codeSize()", x.codeSize(), 0);
-        check.due("run(9)", x.run(9), -1);
+        check.wrongWith(astCells, codeCells, kind, marked);
     }
 
     private static void right(String text) {
-        check.due("compile() of " + text, Check.fed(Check.roomy(), text).compile(), 0);
+        check.right(text);
     }
 
     /** As an S of main, behind some names that are known. */
