@@ -26,6 +26,8 @@ final class BoundsCodeTest {
         addressesBehindOrElse();
         emptyBlocksAndSemicolons();
         leastAndLargestNumber();
+        partsOfACall();
+        sizesOfArrays();
         check.end();
     }
 
@@ -67,6 +69,20 @@ final class BoundsCodeTest {
         check.due("feed into the full text", x.feed(32), 1);
         check.due("compile() with more", x.compile(), 0);
         check.due("codeSize()", x.codeSize(), 16);
+        // globals, LOCALS and parameters begin at their first numbers each time
+        TinyC g = compiled(new TinyC(99, 99, 99, 99, 9), "int a[3];int w;int f(int x){int y=x;return w;}int main(){return f(1);}");
+        int[] due = new int[g.codeSize()];
+        for (int i = 0; i < due.length; i++) {
+            due[i] = g.codeAt(i);
+        }
+        check.due("w's address", due[11], 3);
+        for (int again = 0; again < 5; again++) {
+            check.due("compile() again", g.compile(), 0);
+            check.due("codeSize()", g.codeSize(), due.length);
+            for (int i = 0; i < due.length; i++) {
+                check.due("codeAt(" + i + ")", g.codeAt(i), due[i]);
+            }
+        }
         TinyC y = Check.fed(new TinyC(99, 99, 99, 99, 9), "int main(){");
         for (int i = 0; i < 3; i++) {
             check.due("compile() of a wrong text", y.compile(), 2 + 16 * 11);
@@ -314,6 +330,26 @@ final class BoundsCodeTest {
         body(0, ";;;;{;{};}{{{}}}");
         body(0, ";v=1;", 1, 1, 3, 0);
         body(0, "{;{v=1;}}", 1, 1, 3, 0);
+    }
+
+    /** Terms II: no part, one, eight; as an S and in an E; the first FUNCTION's address is 4. */
+    private static void partsOfACall() {
+        check.sentence("Terms II", "Call: its parts, 32 address n.");
+        body(0, "main();", 32, 4, 0, 36);
+        body(0, "v=main();", 32, 4, 0, 3, 0);
+        code("int f(int x){}int main(){f(7);return f(8);}",
+            32, 10, 0, 0, 37, 0, 1, 0, 33, 1, 37, 0, 1, 7, 32, 4, 1, 36, 1, 8, 32, 4, 1, 33, 0, 1, 0, 33, 0);
+        code("int f(int a,int b,int c,int d,int e,int f,int g,int h){}int main(){f(1,2,3,4,5,6,7,8);}",
+            32, 10, 0, 0, 37, 0, 1, 0, 33, 8, 37, 0, 1, 1, 1, 2, 1, 3, 1, 4, 1, 5, 1, 6, 1, 7, 1, 8, 32, 4, 8, 36, 1, 0, 33, 0);
+    }
+
+    /** Terms II: the least and the largest array, taken and set. */
+    private static void sizesOfArrays() {
+        check.sentence("Terms II", "NAME [ E ]: E, 6 address size.");
+        for (int size : new int[] {1, 2, 999, 1000}) {
+            code("int b[" + size + "];int c[" + size + "];int main(){c[1]=b[0];}",
+                32, 4, 0, 0, 37, 0, 1, 1, 1, 0, 6, 0, size, 7, size, size, 1, 0, 33, 0);
+        }
     }
 
     /** Terms II: 0, 1, the largest; one below 0 is made by 24. */

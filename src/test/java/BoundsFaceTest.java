@@ -62,6 +62,7 @@ final class BoundsFaceTest {
     private static void reset() {
         resetWithoutCode();
         bothAreAsAtFirst();
+        bothAreAsAtFirstBehindATrap();
         whatCameOutIsGone();
         inputBeginsWithItsFirst();
         textCodeAndInputStay();
@@ -529,29 +530,46 @@ final class BoundsFaceTest {
         check.due("run", x.run(99), 1);
     }
 
-    /** Promise 8: behind no step, one step, all but the last, the last, a TRAP; PC, SP, FP, memory, who began. */
+    /** Promise 8: behind no step, one step, all but the last, the last; with just enough cells, so that nothing may be left over. */
     private static void bothAreAsAtFirst() {
         check.sentence("Promise 8", "Both are as at first");
         String text = "int g;int f(int x){int y=x;g=g+y;return g;}int main(){int z=f(3);print(f(4)+z);}";
-        int steps = stepsOf(text);
-        int itsSteps = itemsOf(text);
-        int[] fuels = {0, 1, 2, steps / 2, steps - 1, steps, steps + 1};
-        int[] itsFuels = {0, 1, 2, itsSteps / 2, itsSteps - 1, itsSteps, itsSteps + 1};
-        TinyC x = compiled(new TinyC(99, 200, 99, 40, 2), text);
-        for (int i = 0; i < fuels.length; i++) {
-            x.run(fuels[i]);
-            x.reset();
-            check.due("interpret behind run(" + fuels[i] + "), all but one", x.interpret(itsSteps - 1), 0);
-            check.due("interpret behind run(" + fuels[i] + "), the last", x.interpret(1), 1);
-            check.outs("behind run(" + fuels[i] + ")", x, 10, 0);
-            x.reset();
-            x.interpret(itsFuels[i]);
-            x.reset();
-            check.due("run behind interpret(" + itsFuels[i] + "), all but one", x.run(steps - 1), 0);
-            check.due("run behind interpret(" + itsFuels[i] + "), the last", x.run(1), 1);
-            check.outs("behind interpret(" + itsFuels[i] + ")", x, 10, 0);
-            x.reset();
+        for (int which = 0; which < 2; which++) {
+            int cells = fewestCells(which, text);
+            TinyC x = compiled(new TinyC(99, 200, 99, cells, 2), text);
+            int steps = stepsToTheEnd(which, x);
+            for (int other = 0; other < 2; other++) {
+                for (int fuel = 0; fuel <= steps + 1; fuel++) {
+                    x.reset();
+                    go(other, x, fuel);
+                    x.reset();
+                    check.due("all but one behind " + fuel, go(which, x, steps - 1), 0);
+                    check.due("the last one behind " + fuel, go(which, x, 1), 1);
+                    check.outs("behind " + fuel, x, 10, 0);
+                }
+            }
         }
+    }
+
+    private static int fewestCells(int which, String text) {
+        int cells = 0;
+        while (cells < 999 && go(which, compiled(new TinyC(99, 200, 99, cells, 2), text), 999) != 1) {
+            cells++;
+        }
+        return cells;
+    }
+
+    private static int stepsToTheEnd(int which, TinyC x) {
+        int count = 1;
+        while (count < 9999 && go(which, x, 1) == 0) {
+            count++;
+        }
+        return count;
+    }
+
+    /** Promise 8: behind a TRAP neither stands any more. */
+    private static void bothAreAsAtFirstBehindATrap() {
+        check.sentence("Promise 8", "Both are as at first");
         TinyC trap = compiled(new TinyC(99, 99, 99, 99, 9), "int main(){print(5);return 1/0;}");
         for (int i = 0; i < 2; i++) {
             check.due("run up to the TRAP", trap.run(99), 2);
@@ -561,24 +579,6 @@ final class BoundsFaceTest {
             trap.reset();
             check.due("interpret(0) behind it", trap.interpret(0), 0);
         }
-    }
-
-    private static int stepsOf(String text) {
-        TinyC x = compiled(new TinyC(99, 200, 99, 40, 2), text);
-        int count = 1;
-        while (count < 9999 && x.step() == 0) {
-            count++;
-        }
-        return count;
-    }
-
-    private static int itemsOf(String text) {
-        TinyC x = compiled(new TinyC(99, 200, 99, 40, 2), text);
-        int count = 1;
-        while (count < 9999 && x.interpret(1) == 0) {
-            count++;
-        }
-        return count;
     }
 
     /** Promise 8: nothing, one number, all that fit. */

@@ -49,6 +49,8 @@ final class BoundsMachineTest {
         zeroEndsIt();
         ifItIsZero();
         callsAndReturns();
+        bitsAtTheirEnds();
+        nothingIsLeftBehind();
     }
 
     private static void zeroAndPlace() {
@@ -456,6 +458,38 @@ final class BoundsMachineTest {
             int cells = 2 + 3 * (n + 1) + 1;
             check.due("run with just enough of " + deep, made(cells, 9, deep).run(999), 1);
             check.due("run with one too few of " + deep, made(cells - 1, 9, deep).run(999), 4);
+        }
+    }
+
+    /** Terms II, 10 to 12: no bit, all bits, the sign's bit alone, all but it. */
+    private static void bitsAtTheirEnds() {
+        check.sentence("Terms II", "10 to 23, 27, 28: y goes, x goes, x op y is pushed; 24 to 26 of one.");
+        String[] xs = {"0", "-1", LEAST, LARGEST, "1"};
+        int[] values = {0, -1, MIN, MAX, 1};
+        int[][] either = {{0, -1, MIN, MAX, 1}, {-1, -1, -1, -1, -1}, {MIN, -1, MIN, -1, MIN + 1}, {MAX, -1, -1, MAX, MAX}, {1, -1, MIN + 1, MAX, 1}};
+        int[][] both = {{0, 0, 0, 0, 0}, {0, -1, MIN, MAX, 1}, {0, MIN, MIN, 0, 0}, {0, MAX, 0, MAX, 1}, {0, 1, 0, 1, 1}};
+        for (int i = 0; i < xs.length; i++) {
+            for (int j = 0; j < xs.length; j++) {
+                value(xs[i] + "|" + xs[j], either[i][j]);
+                value(xs[i] + "&" + xs[j], both[i][j]);
+                value(xs[i] + "^" + xs[j], either[i][j] - both[i][j]);
+            }
+            value("~" + xs[i], -1 - values[i]);
+        }
+    }
+
+    /** Terms II, 36 and what else takes from the top: behind each S, done twice, all cells but its LOCALS' are free again. */
+    private static void nothingIsLeftBehind() {
+        check.sentence("Terms II", "36: the top goes.");
+        stack("int n(){}int main(){n();n();}", 2, 2, 4, 4, 5, 3, 2, 4, 4, 5, 3, 2, 3, 1, 0);
+        String[] all = {";", "{}", "{int x;}", "v=1;", "a[1]=2;", "v=a[1];", "print(3);", "if(1);", "if(0);else v=1;", "while(v){v=0;}",
+            "n();", "f(1);", "v=f(n());", "v=1&&0;", "v=0||1;", "v=-!~v;", "v=read();"};
+        for (String s : all) {
+            String text = "int v;int a[2];int n(){}int f(int x){int y;return x;}int main(){" + s + s + "return 1-(2-(3-(4-(5-(6-7)))));}";
+            // globals, PC and FP, LOCALS, seven numbers
+            int cells = 3 + 2 + (s.contains("int x") ? 1 : 0) + 7;
+            check.due("run with just enough of " + text, made(cells, 9, text, 5, 6).run(999), 1);
+            check.due("run with one too few of " + text, made(cells - 1, 9, text, 5, 6).run(999), 4);
         }
     }
 

@@ -25,6 +25,13 @@ final class BoundsTokensTest {
         digitsOfANumber();
         keywordsAreNoNames();
         emptyText();
+        globals();
+        functions();
+        blocks();
+        locals();
+        elseOrNone();
+        partsOfACall();
+        signsFromTheLeft();
         knownFromWhereItStands();
         functionWithinItself();
         parameterInItsFunction();
@@ -292,6 +299,128 @@ final class BoundsTokensTest {
         check.wrong(2, "int main(){}@;");
         check.wrong(2, "int main(){}@main");
         check.wrong(2, "int main(){}@{}");
+    }
+
+    /** Terms I, GLOBAL: without [ ], with one, with two. */
+    private static void globals() {
+        check.sentence("Terms I", "GLOBAL: int NAME [ \"[\" NUMBER \"]\" ] ;");
+        check.right("int q;int main(){}");
+        check.right("int q[1];int main(){}");
+        check.wrong(2, "int q[1]@[1];");
+        check.wrong(2, "int q[@];");
+        check.wrong(2, "int q[1 @1];");
+        check.wrong(2, "int q@]");
+        check.wrong(2, "int q@,p;");
+        check.wrong(2, "int q@=1;");
+        check.wrong(2, "int @;");
+        check.wrong(2, "int q @p;");
+    }
+
+    /** Terms I, FUNCTION: no parameter, one, two; a comma too few and too many; no BLOCK, one, two. */
+    private static void functions() {
+        check.sentence("Terms I", "FUNCTION: int NAME ( [int NAME {, int NAME}] ) BLOCK.");
+        check.right("int q(){}int main(){}");
+        check.right("int q(int x){}int main(){}");
+        check.right("int q(int x,int y){}int main(){}");
+        check.wrong(2, "int q(@,int x){}");
+        check.wrong(2, "int q(int x @int y){}");
+        check.wrong(2, "int q(int x,@,int y){}");
+        check.wrong(2, "int q(int x,@){}");
+        check.wrong(2, "int q(int@){}");
+        check.wrong(2, "int q(@x){}");
+        check.wrong(2, "int q()@;");
+        check.wrong(2, "int q(){}@{}");
+        check.wrong(2, "int q()@return 1;");
+    }
+
+    /** Terms I, BLOCK: neither LOCAL nor S, each alone, both, a LOCAL behind an S. */
+    private static void blocks() {
+        check.sentence("Terms I", "BLOCK: \"{\" {LOCAL} {S} \"}\".");
+        rightS("");
+        rightS("int x;");
+        rightS("int x;int y;");
+        rightS(";");
+        rightS(";;");
+        rightS("int x;;");
+        rightS("int x;int y;;;");
+        wrongS(2, ";@int x;");
+        wrongS(2, "int x;;@int y;");
+        wrongS(2, "{}@int x;");
+        rightS("{int x;}");
+        rightS(";{int x;}");
+        wrongS(2, "if(1)@int x;");
+        wrongS(2, "while(1)@int x;");
+        wrongS(2, "if(1);else @int x;");
+        rightS("if(1){int x;}else{int x;}");
+        check.wrong(2, "int main(){}@}");
+        check.wrong(2, "int main(){{}@");
+    }
+
+    /** Terms I, LOCAL: without an E, with one, with two. */
+    private static void locals() {
+        check.sentence("Terms I", "LOCAL: int NAME [= E] ;");
+        rightS("int x;");
+        rightS("int x=1;");
+        wrongS(2, "int x=@;");
+        wrongS(2, "int x=1@=2;");
+        wrongS(2, "int x=1@,2;");
+        wrongS(2, "int x@,y;");
+        wrongS(2, "int x@[2];");
+        wrongS(2, "int x@(){}");
+        wrongS(2, "int @;");
+    }
+
+    /** Terms I, S: no else, one, two; the else belongs to the nearest if. */
+    private static void elseOrNone() {
+        check.sentence("Terms I", "if ( E ) S [else S]");
+        rightS("if(1);");
+        rightS("if(1);else;");
+        wrongS(2, "if(1);else;@else;");
+        wrongS(2, "@else;");
+        wrongS(2, ";@else;");
+        wrongS(2, "if(1);;@else;");
+        wrongS(2, "while(1);@else;");
+        wrongS(2, "if(1)@else;");
+        rightS("if(1)if(1);else;else;");
+        wrongS(2, "if(1)if(1);else;else;@else;");
+        check.prints("int main(){if(0)if(0);else print(1);if(1)if(0);else print(2);if(0)if(1);else;else print(3);}", 2, 3);
+    }
+
+    /** Terms I, S and E: no part, one, eight; a comma too few and too many. */
+    private static void partsOfACall() {
+        check.sentence("Terms I", "NAME ( [E {, E}] )");
+        String g = "int g(int a,int b,int c,int d,int e,int f,int g,int h){}int h(int a,int b){}int i(int a){}int j(){}int main(){";
+        for (String v : new String[] {"", "return "}) {
+            check.right(g + v + "j();}");
+            check.right(g + v + "i(1);}");
+            check.right(g + v + "h(1,2);}");
+            check.right(g + v + "g(1,2,3,4,5,6,7,8);}");
+            check.wrong(2, g + v + "h(@,1);}");
+            check.wrong(2, g + v + "h(1,@);}");
+            check.wrong(2, g + v + "h(1,@,2);}");
+            check.wrong(2, g + v + "h(1 @2);}");
+            check.wrong(2, g + v + "j(@,);}");
+            check.wrong(2, g + v + "i(1@;}");
+        }
+    }
+
+    /** Terms I, E: two and three of one row, which no brackets hold together. */
+    private static void signsFromTheLeft() {
+        check.sentence("Terms I", "E, from the loosest, all from the left:");
+        codeOf("1-2-3", 1, 1, 1, 2, 22, 1, 3, 22);
+        codeOf("1-2+3-4", 1, 1, 1, 2, 22, 1, 3, 21, 1, 4, 22);
+        codeOf("1/2%3*4", 1, 1, 1, 2, 27, 1, 3, 28, 1, 4, 23);
+        codeOf("1<2>3<=4>=5", 1, 1, 1, 2, 15, 1, 3, 17, 1, 4, 16, 1, 5, 18);
+        codeOf("1==2!=3", 1, 1, 1, 2, 13, 1, 3, 14);
+        codeOf("1<<2>>3", 1, 1, 1, 2, 19, 1, 3, 20);
+        codeOf("1-(2-3)", 1, 1, 1, 2, 1, 3, 22, 22);
+        codeOf("1|2|3", 1, 1, 1, 2, 10, 1, 3, 10);
+        // the loosest and the tightest row on either side, and all rows at once
+        codeOf("1|2*3", 1, 1, 1, 2, 1, 3, 23, 10);
+        codeOf("1*2|3", 1, 1, 1, 2, 23, 1, 3, 10);
+        codeOf("-1*-2", 1, 1, 24, 1, 2, 24, 23);
+        codeOf("1|2^3&4==5<6<<7+8*-9", 1, 1, 1, 2, 1, 3, 1, 4, 1, 5, 1, 6, 1, 7, 1, 8, 1, 9, 24, 23, 21, 19, 15, 13, 12, 11, 10);
+        codeOf("-9*8+7<<6<5==4&3^2|1", 1, 9, 24, 1, 8, 23, 1, 7, 21, 1, 6, 19, 1, 5, 15, 1, 4, 13, 1, 3, 12, 1, 2, 11, 1, 1, 10);
     }
 
     /** Terms I, NAMES: just ahead of where it stands, just behind, and at the text's end. */

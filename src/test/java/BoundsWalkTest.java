@@ -66,6 +66,7 @@ final class BoundsWalkTest {
         roomAheadOfHalted();
         whatHasComeOut();
         deepCalls();
+        nothingIsLeftBehind();
     }
 
     private static TinyC made(int memCells, int ioCells, String text, int... inputs) {
@@ -539,5 +540,21 @@ final class BoundsWalkTest {
         String many = "int f(int x){int y=x;return y;}int main(){int i=300;while(i)i=f(i)-1;}";
         check.due("calls one behind the other with just enough", made(12, 9, many).interpret(99999), 1);
         check.due("calls one behind the other with one too few", made(11, 9, many).interpret(99999), 4);
+    }
+
+    /** Terms III, ROOM: behind each S, done twice, nothing of it is left among VALUES, ITEMS and FRAMES. */
+    private static void nothingIsLeftBehind() {
+        check.sentence("Terms III", "ROOM: VALUES, ITEMS, globals, and of each FRAME its parameters and k are more, behind a STEP, than memory has cells");
+        cells("int f(int x){int y;}int main(){f(1);f(2);return 1-(2-(3-4));}",
+            2, 2, 3, 4, 5, 5, 7, 7, 7, 6, 4, 2, 3, 4, 5, 5, 7, 7, 7, 6, 4, 2, 2, 3, 5, 5, 7, 7, 9, 9, 9, 7, 5, 3, 1);
+        String[] all = {";", "{}", "{int x;}", "{int x=1;}", "v=1;", "a[1]=2;", "v=a[1];", "print(3);", "if(1);", "if(0);", "if(0);else v=1;",
+            "while(v){v=0;}", "n();", "f(1);", "v=f(n());", "v=1&&0;", "v=0&&1;", "v=0||1;", "v=1||0;", "v=-!~v;", "v=read();"};
+        for (String s : all) {
+            String text = "int v;int a[2];int n(){}int f(int x){int y;return x;}int main(){" + s + s + "return 1-(2-(3-(4-(5-(6-7)))));}";
+            // globals, end and return, LOCALS; of each - three, of which one is a value for the next
+            int cells = 3 + 2 + (s.contains("int x") ? 1 : 0) + 2 * 6 + 1;
+            check.due("interpret with just enough of " + text, made(cells, 9, text, 5, 6).interpret(999), 1);
+            check.due("interpret with one too few of " + text, made(cells - 1, 9, text, 5, 6).interpret(999), 4);
+        }
     }
 }
