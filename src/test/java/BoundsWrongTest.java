@@ -594,6 +594,10 @@ final class BoundsWrongTest {
         wrongS(8, "v=" + times(39, "(") + "@((1" + times(41, ")") + ";");
         rightS("v=" + times(39, "f(") + "1" + times(39, ")") + ";");
         wrongS(8, "v=" + times(39, "f(") + "f@(1" + times(40, ")") + ";");
+        // at each level a sign of each row waits for its second part
+        String rows = "0||1&&0|0^1&1==1<1<<1+1*(";
+        check.prints("int main(){print(" + times(38, rows) + "7" + times(38, ")") + ");}", 1);
+        check.wrong(8, "int main(){print(" + times(38, rows) + rows.replace("(", "@(") + "7");
     }
 
     /** Kind 8: [ in an E and of an S. */
