@@ -15,7 +15,9 @@ final class LanguageTest {
     public static void main(String[] args) throws Exception {
         face();
         nestedClasses();
-        words(Files.readString(Path.of("src/main/java/TinyC.java")));
+        String source = Files.readString(Path.of("src/main/java/TinyC.java"));
+        words(source);
+        methodsAreShort(source);
         check.end();
     }
 
@@ -47,6 +49,10 @@ final class LanguageTest {
             if (Modifier.isPublic(m.getModifiers())) {
                 names.add(m.getName());
             }
+        }
+        for (Method m : TinyC.class.getDeclaredMethods()) {
+            boolean isPublic = Modifier.isPublic(m.getModifiers());
+            check.due(m + " has a name of the face", names.contains(m.getName()) ? 1 : 0, isPublic ? 1 : 0);
         }
         int classes = 1;
         for (Class<?> c : TinyC.class.getDeclaredClasses()) {
@@ -81,5 +87,36 @@ final class LanguageTest {
             check.due("import " + imports.group(1), imports.group(1).equals("java.util.Arrays") ? 1 : 0, 1);
         }
         check.due("signs beyond 127", source.chars().anyMatch(c -> c > 127) ? 1 : 0, 0);
+    }
+    /** A method's last line is the first one with a bracket as far from the margin as its head. */
+    private static void methodsAreShort(String source) {
+        Matcher heads = Pattern.compile("(?m)^( +)(?:public|private) [^=;{]*\\([^;{]*\\) \\{$").matcher(source);
+        int methods = 0;
+        while (heads.find()) {
+            methods++;
+            int end = source.indexOf("\n" + heads.group(1) + "}\n", heads.start());
+            long lines = source.substring(heads.start(), Math.max(heads.end(), end)).lines().count() + 1;
+            check.due(heads.group().strip() + " has at most sixty lines", end > 0 && lines <= 60 ? 1 : 0, 1);
+        }
+        check.due("methods and constructors in the text", methods, madeMethods());
+    }
+
+    private static int madeMethods() {
+        int count = countOf(TinyC.class);
+        for (Class<?> c : TinyC.class.getDeclaredClasses()) {
+            count += countOf(c);
+        }
+        return count;
+    }
+
+    private static int countOf(Class<?> c) {
+        int count = 0;
+        for (Method m : c.getDeclaredMethods()) {
+            count += m.isSynthetic() ? 0 : 1;
+        }
+        for (Constructor<?> m : c.getDeclaredConstructors()) {
+            count += m.isSynthetic() ? 0 : 1;
+        }
+        return count;
     }
 }
